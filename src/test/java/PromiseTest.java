@@ -1,4 +1,4 @@
-/** Each promise with ordinary inputs, the edges that the document names, and wrong inputs. */
+/** Each promise with cases worked by hand; BoundaryTest has each boundary case of the document. */
 public final class PromiseTest {
     private static final int MIN = Integer.MIN_VALUE;
     private static final int MAX = Integer.MAX_VALUE;
@@ -13,7 +13,6 @@ public final class PromiseTest {
 
     public static void main(String[] args) {
         newObject();
-        addRefusals();
         addEdges();
         addUpToEight();
         addRefusedChangesNothing();
@@ -29,8 +28,6 @@ public final class PromiseTest {
         gain();
         steady();
         steadyIsTheLateGrowth();
-        objectsAreApart();
-        fiveHundredAndTwelveCalls();
         System.out.println(wrong == 0 ? "all answers are as due" : wrong + " answers are not as due");
         if (wrong != 0) {
             System.exit(1);
@@ -48,28 +45,6 @@ public final class PromiseTest {
         due("1: first", x.first(), -1);
         due("1: steady", x.steady(), 0);
         due("1: the first add", x.add(0, 4, 1, 0), 1);
-    }
-
-    private static void addRefusals() {
-        QuickestFlow x = new QuickestFlow();
-        int[] noPlace = {-1, 5, MIN, MAX};
-        for (int p : noPlace) {
-            due("2: from " + p, x.add(p, 4, 1, 0), -1);
-            due("2: to " + p, x.add(0, p, 1, 0), -1);
-            due("2: both " + p, x.add(p, p, 1, 0), -1);
-        }
-        for (int p = 0; p <= 4; p++) {
-            due("2: from and to " + p, x.add(p, p, 1, 0), -1);
-        }
-        int[] noWidth = {0, -1, 5, MIN, MAX};
-        for (int w : noWidth) {
-            due("2: width " + w, x.add(0, 4, w, 0), -1);
-        }
-        int[] noTime = {-1, 4, MIN, MAX};
-        for (int time : noTime) {
-            due("2: time " + time, x.add(0, 4, 1, time), -1);
-        }
-        due("2: nothing was added", x.drop(0), -1);
     }
 
     private static void addEdges() {
@@ -317,25 +292,6 @@ public final class PromiseTest {
         x.add(3, 4, 2, 0);
         for (int t = 9; t < 12; t++) {
             due("8: growth after " + t, x.arrived(t + 1) - x.arrived(t), x.steady());
-        }
-    }
-
-    private static void objectsAreApart() {
-        QuickestFlow x = new QuickestFlow();
-        QuickestFlow y = new QuickestFlow();
-        x.add(0, 4, 4, 0);
-        due("1: another object has no line", y.arrived(12), 0);
-        y.add(0, 4, 1, 0);
-        due("1: nor changes this one", x.arrived(0), 4);
-    }
-
-    private static void fiveHundredAndTwelveCalls() {
-        QuickestFlow x = new QuickestFlow();
-        for (int i = 0; i < 128; i++) {
-            due("call " + 4 * i, x.add(0, 4, i % 4 + 1, i % 3), 1);
-            due("call " + (4 * i + 1), x.arrived(12), (i % 4 + 1) * (13 - i % 3));
-            due("call " + (4 * i + 2), x.first(), i % 3);
-            due("call " + (4 * i + 3), x.drop(0), 0);
         }
     }
 }
