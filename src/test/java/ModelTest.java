@@ -142,15 +142,12 @@ public final class ModelTest {
         }
     }
 
+    /** The number of lines swings between few and many: spans with more adds and spans with more drops. */
     private static void oneCall(int run, int call, QuickestFlow x, Model model) {
+        boolean growing = call / 32 % 2 == run % 2;
         int kind = pick(0, 99);
-        if (kind < 30) {
-            int from = pick(0, 15) == 0 ? pick(-2, 6) : pick(0, 3);
-            int to = pick(0, 15) == 0 ? pick(-2, 6) : pick(1, 4);
-            int width = pick(0, 15) == 0 ? pick(-1, 6) : pick(1, 4);
-            int time = pick(0, 15) == 0 ? pick(-2, 5) : pick(0, 3);
-            String what = "add(" + from + ", " + to + ", " + width + ", " + time + ")";
-            due(run, call, what, x.add(from, to, width, time), model.add(from, to, width, time));
+        if (kind < (growing ? 30 : 14)) {
+            oneAdd(run, call, x, model);
         } else if (kind < 42) {
             int number = pick(-1, 8);
             due(run, call, "drop(" + number + ")", x.drop(number), model.drop(number));
@@ -158,7 +155,7 @@ public final class ModelTest {
             int t = pick(-1, 13);
             due(run, call, "arrived(" + t + ")", x.arrived(t), model.arrived(t));
         } else if (kind < 70) {
-            int amount = pick(-2, 80);
+            int amount = pickAmount(model);
             due(run, call, "quickest(" + amount + ")", x.quickest(amount), model.quickest(amount));
         } else if (kind < 78) {
             due(run, call, "first()", x.first(), model.first());
@@ -169,6 +166,20 @@ public final class ModelTest {
         } else {
             due(run, call, "steady()", x.steady(), model.steady());
         }
+    }
+
+    private static void oneAdd(int run, int call, QuickestFlow x, Model model) {
+        int from = pick(0, 15) == 0 ? pick(-2, 6) : pick(0, 3);
+        int to = pick(0, 15) == 0 ? pick(-2, 6) : pick(1, 4);
+        int width = pick(0, 15) == 0 ? pick(-1, 6) : pick(1, 4);
+        int time = pick(0, 15) == 0 ? pick(-2, 5) : pick(0, 3);
+        String what = "add(" + from + ", " + to + ", " + width + ", " + time + ")";
+        due(run, call, what, x.add(from, to, width, time), model.add(from, to, width, time));
+    }
+
+    /** Mostly just what some moment yields, or one less or more: there the answers of quickest change. */
+    private static int pickAmount(Model model) {
+        return pick(0, 3) == 0 ? pick(-2, 420) : model.yieldFor(pick(0, 12)) + pick(-1, 1);
     }
 
     /** Both halves of promise 8 say the same: checked far beyond the moments that arrived is asked for. */

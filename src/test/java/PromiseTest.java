@@ -28,6 +28,7 @@ public final class PromiseTest {
         gain();
         steady();
         steadyIsTheLateGrowth();
+        exampleOfTheReadme();
         System.out.println(wrong == 0 ? "all answers are as due" : wrong + " answers are not as due");
         if (wrong != 0) {
             System.exit(1);
@@ -293,5 +294,17 @@ public final class PromiseTest {
         for (int t = 9; t < 12; t++) {
             due("8: growth after " + t, x.arrived(t + 1) - x.arrived(t), x.steady());
         }
+    }
+
+    private static void exampleOfTheReadme() {
+        QuickestFlow flow = new QuickestFlow();
+        due("README: add(0, 1, 2, 1)", flow.add(0, 1, 2, 1), 1);
+        due("README: add(1, 4, 1, 1)", flow.add(1, 4, 1, 1), 2);
+        due("README: first()", flow.first(), 2);
+        due("README: arrived(4)", flow.arrived(4), 3);
+        due("README: quickest(3)", flow.quickest(3), 4);
+        due("README: gain(1, 4)", flow.gain(1, 4), 3);
+        due("README: steady()", flow.steady(), 1);
+        due("README: drop(0)", flow.drop(0), 1);
     }
 }
